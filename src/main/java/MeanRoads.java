@@ -763,6 +763,17 @@ public final class MeanRoads {
             return hasRoad(way) && isWeather(sky) ? pays[sky * MOST_ROADS + way] : 0;
         }
 
+        /** The most that an open road pays or costs. */
+        int mostPaid(int sky) {
+            int most = 0;
+            for (int r = 0; r < roads && r < MOST_ROADS; r++) {
+                if (isOpen(sky, r)) {
+                    most = Math.max(most, Math.abs(payOf(sky, r)));
+                }
+            }
+            return most;
+        }
+
         int target(int here, int way) {
             return hasRoad(way) ? to[way] : here;
         }
@@ -1857,34 +1868,34 @@ public final class MeanRoads {
 
         private int[] counts = new int[MOST_PLACES * WIDTH];
         private int[] next = new int[MOST_PLACES * WIDTH];
-        private int steps = 0;
+        /** No sum lies further from 0; what lies beyond in the rows is old and never read. */
+        private int widest = 0;
+        private int nextWidest = 0;
 
         void begin(int token) {
-            Arrays.fill(counts, 0);
-            steps = 0;
-            add(counts, token, 0, 1);
-        }
-
-        private static boolean isIn(int p, int sum) {
-            return p >= 0 && p < MOST_PLACES && sum >= -MIDDLE && sum <= MIDDLE;
-        }
-
-        private static void add(int[] to, int p, int sum, int much) {
-            if (isIn(p, sum)) {
-                to[p * WIDTH + MIDDLE + sum] += much;
+            widest = 0;
+            for (int p = 0; p < MOST_PLACES; p++) {
+                counts[p * WIDTH + MIDDLE] = p == token ? 1 : 0;
             }
         }
 
         private int rowsAt(int p, int sum) {
-            return isIn(p, sum) ? counts[p * WIDTH + MIDDLE + sum] : 0;
+            boolean isIn = p >= 0 && p < MOST_PLACES && sum >= -widest && sum <= widest;
+            return isIn ? counts[p * WIDTH + MIDDLE + sum] : 0;
         }
 
-        private int widest() {
-            return steps * MOST_PAY;
+        private void beginStep(Land land, int sky) {
+            nextWidest = Math.min(MIDDLE, widest + land.mostPaid(sky));
+            for (int p = 0; p < MOST_PLACES; p++) {
+                int middle = p * WIDTH + MIDDLE;
+                for (int i = middle - nextWidest; i <= middle + nextWidest; i++) {
+                    next[i] = 0;
+                }
+            }
         }
 
         void stepByChoice(Land land, int sky) {
-            Arrays.fill(next, 0);
+            beginStep(land, sky);
             for (int p = 0; p < land.places; p++) {
                 int ways = land.waysFrom(sky, p);
                 for (int way = 0; way <= STAYING; way++) {
@@ -1893,11 +1904,11 @@ public final class MeanRoads {
                     }
                 }
             }
-            turn();
+            endStep();
         }
 
         void stepByLots(Land land, int sky) {
-            Arrays.fill(next, 0);
+            beginStep(land, sky);
             for (int p = 0; p < land.places; p++) {
                 int roads = land.openFrom(sky, p);
                 int lots = LOTS;
@@ -1909,23 +1920,27 @@ public final class MeanRoads {
                 }
                 addAll(p, p, 0, lots);
             }
-            turn();
+            endStep();
         }
 
         private void addAll(int from, int to, int pay, int weight) {
-            for (int sum = -widest(); sum <= widest(); sum++) {
+            if (to < 0 || to >= MOST_PLACES) {
+                return;
+            }
+            for (int sum = -widest; sum <= widest; sum++) {
                 int rows = rowsAt(from, sum);
-                if (rows != 0) {
-                    add(next, to, sum + pay, rows * weight);
+                int paid = sum + pay;
+                if (rows != 0 && paid >= -nextWidest && paid <= nextWidest) {
+                    next[to * WIDTH + MIDDLE + paid] += rows * weight;
                 }
             }
         }
 
-        private void turn() {
+        private void endStep() {
             int[] old = counts;
             counts = next;
             next = old;
-            steps++;
+            widest = nextWidest;
         }
 
         int rowsPaying(int paid) {
@@ -1938,7 +1953,7 @@ public final class MeanRoads {
 
         int unlikeSums(int placeBits) {
             int unlike = 0;
-            for (int sum = -widest(); sum <= widest(); sum++) {
+            for (int sum = -widest; sum <= widest; sum++) {
                 boolean some = false;
                 for (int p = 0; p < MOST_PLACES; p++) {
                     some = some || (placeBits >> p & 1) == 1 && rowsAt(p, sum) != 0;
@@ -1953,7 +1968,7 @@ public final class MeanRoads {
         /** Rows behind which so much at first is not below 0. */
         long rowsKeeping(long money) {
             long rows = 0;
-            for (int sum = -widest(); sum <= widest(); sum++) {
+            for (int sum = -widest; sum <= widest; sum++) {
                 if (money + sum >= 0) {
                     rows += rowsPaying(sum);
                 }
@@ -1963,7 +1978,7 @@ public final class MeanRoads {
 
         long allPaid() {
             long all = 0;
-            for (int sum = -widest(); sum <= widest(); sum++) {
+            for (int sum = -widest; sum <= widest; sum++) {
                 all += (long) sum * rowsPaying(sum);
             }
             return all;
