@@ -325,21 +325,18 @@ public final class MeanRoads {
         if (!ground.hasPlace(p) || !isEither(what)) {
             return FAR_BELOW + NO_SUCH;
         }
-        return lowestTerms(worthOf(p), PARTS, what);
-    }
-
-    private int worthOf(int p) {
         game.solve(ground, now.sky, survey);
-        return game.valueAt(p);
+        return lowestTerms(game.valueAt(p), PARTS, what);
     }
 
     public int wins(int sign) {
         if (sign < 0 || sign > 2) {
             return NO_SUCH;
         }
+        game.solve(ground, now.sky, survey);
         int bits = 0;
         for (int p = 0; p < ground.places; p++) {
-            if (Integer.signum(worthOf(p)) == sign - 1) {
+            if (Integer.signum(game.valueAt(p)) == sign - 1) {
                 bits |= 1 << p;
             }
         }
@@ -353,7 +350,8 @@ public final class MeanRoads {
         if (a < -9999 || a > 9999 || b < 1 || b > 99) {
             return BAD_NUMBER;
         }
-        return worthOf(p) * b >= a * PARTS ? 1 : 0;
+        game.solve(ground, now.sky, survey);
+        return game.valueAt(p) * b >= a * PARTS ? 1 : 0;
     }
 
     public int best(int p) {
@@ -765,9 +763,10 @@ public final class MeanRoads {
 
         /** The most that an open road pays or costs. */
         int mostPaid(int sky) {
+            int bits = openRoads(sky);
             int most = 0;
-            for (int r = 0; r < roads && r < MOST_ROADS; r++) {
-                if (isOpen(sky, r)) {
+            for (int r = 0; r < MOST_ROADS; r++) {
+                if ((bits >> r & 1) == 1) {
                     most = Math.max(most, Math.abs(payOf(sky, r)));
                 }
             }
@@ -1030,20 +1029,16 @@ public final class MeanRoads {
                     end++;
                 }
             } else if (isDigit(text[start])) {
-                readNumber();
+                value = 0;
+                while (end < size && isDigit(text[end])) {
+                    value = Math.min(value * 10 + text[end] - '0', 9999);
+                    end++;
+                }
+                kind = end - start > 3 ? BAD : NUMBER;
             } else {
                 kind = text[start] > 0 && SIGNS.indexOf((char) text[start]) >= 0 ? SIGN : BAD;
                 end++;
             }
-        }
-
-        private void readNumber() {
-            value = 0;
-            while (end < size && isDigit(text[end])) {
-                value = Math.min(value * 10 + text[end] - '0', 9999);
-                end++;
-            }
-            kind = end - start > 3 ? BAD : NUMBER;
         }
 
         private static boolean isLetter(int b) {

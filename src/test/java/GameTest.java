@@ -9,6 +9,7 @@ public final class GameTest {
         oneSided();
         needs();
         mostPlans();
+        byItself();
         wrong();
         CHECK.end();
     }
@@ -139,6 +140,36 @@ public final class GameTest {
         due("plays(1)", x.plays(1), 5);
     }
 
+    /** Each call is right as the first behind a change. */
+    private static void byItself() {
+        String land = "land weather 0;place mine;place yours;road 0 0 gains 1;road 0 1 gains 5;road 1 0 loses 2;"
+            + "road 1 1 gains 4;pays : if weather = 1 then 0 - told else told end;";
+        MeanRoads x = Check.of(land);
+        due("worth by 0", x.worth(0, 0), 3);
+        x.weather(1);
+        due("wins(0) by 1", x.wins(0), 3);
+        x.weather(0);
+        due("wins(2) by 0", x.wins(2), 3);
+        x.weather(1);
+        due("atLeast by 1", x.atLeast(0, 0, 1), 0);
+        x.weather(0);
+        due("best by 0", x.best(0), 1);
+        x.weather(1);
+        due("best by 1", x.best(0), 0);
+        x.weather(0);
+        due("plans by 0", x.plans(1, 0), 1);
+        x.weather(1);
+        due("plays by 1", x.plays(1), 1);
+        due("place(0, 1)", x.place(0, 1), 0);
+        x.undo(2);
+        due("worth by 0 again", x.worth(0, 0), 3);
+        due("a new land", Check.tell(x, land.replace("gains 5", "gains 3")), 8);
+        due("worth of the new land", x.worth(0, 0), 1);
+        due("energy by itself", Check.of(land).energy(1), 2);
+        due("meet() by itself", Check.of(land).meet(), 0);
+        due("secures by itself", Check.of(land).secures(0, 0, 0), 3);
+    }
+
     private static void wrong() {
         MeanRoads x = new MeanRoads();
         due("worth(1, 0)", x.worth(1, 0), Check.FAR - 2);
@@ -152,6 +183,7 @@ public final class GameTest {
         due("atLeast(0, 0, 0)", x.atLeast(0, 0, 0), -3);
         due("atLeast(0, 0, 100)", x.atLeast(0, 0, 100), -3);
         due("atLeast(0, -9999, 99)", x.atLeast(0, -9999, 99), 1);
+        due("atLeast(0, 9999, 99)", x.atLeast(0, 9999, 99), 0);
         due("best(1)", x.best(1), -2);
         due("best(-1)", x.best(-1), -2);
         due("secures(2, 0, 0)", x.secures(2, 0, 0), Check.FAR - 2);

@@ -7,6 +7,7 @@ public final class GoingTest {
         lasso();
         losing();
         staying();
+        longest();
         wrong();
         CHECK.end();
     }
@@ -65,6 +66,28 @@ public final class GoingTest {
         due("round(1)", x.round(1), 1);
         due("purse(most)", x.purse(MOST), 5);
         due("paid(9999)", x.paid(9999), 0);
+    }
+
+    /** Eight places in a row, from the last of which one comes back to each in turn. */
+    private static void longest() {
+        for (int back = 0; back < 8; back++) {
+            StringBuilder land = new StringBuilder("land weather 0;" + "place mine;".repeat(8));
+            for (int i = 0; i < 8; i++) {
+                land.append("road ").append(i).append(' ').append(i < 7 ? i + 1 : back).append(" loses 1;");
+            }
+            MeanRoads x = Check.of(land.toString());
+            due("round(0) back to " + back, x.round(0), back);
+            due("round(1) back to " + back, x.round(1), 8 - back);
+            for (int n = 0; n < 30; n++) {
+                due("at(" + n + ") back to " + back, x.at(n), n < 8 ? n : back + (n - back) % (8 - back));
+                due("purse(" + n + ")", x.purse(n), -n);
+                due("paid(" + n + ")", Check.of(land.toString()).paid(n), -n);
+            }
+            x.numbers(0, 0, 40);
+            x.lists(0);
+            due("all ways can be", x.judge(0, 0), -1);
+            due("where they lead", x.judge(0, 2), back + (40 - back) % (8 - back));
+        }
     }
 
     private static void wrong() {

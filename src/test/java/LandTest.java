@@ -111,6 +111,7 @@ public final class LandTest {
         fault("lands weather 0;", 2, 0);
         fault("land wether 0;", 2, 5);
         fault("land weather x;", 2, 13);
+        fault("land weather ;", 2, 13);
         fault("land weather 10;", 3, 13);
         fault("land weather 0012;", 1, 13);
         fault("land weather 0 ", 2, 15);
@@ -126,6 +127,10 @@ public final class LandTest {
         fault(one + "road 0 0 loses 9999;", 1, 41);
         fault(one + "road 0 0 wins 1;", 2, 35);
         fault(one + "road 0 ; gains 1;", 2, 33);
+        fault(one + "road 0 gains 1;", 2, 33);
+        fault(one + "road gains 1;", 2, 31);
+        fault(one + "road 0 0 gains ;", 2, 41);
+        fault(one + "road 0 0 loses;", 2, 40);
         fault(one + "road 5 x gains 1;", 3, 31);
         fault(land + "pays = 1;", 2, 20);
         fault(land + "pays : 1 + ;", 2, 26);

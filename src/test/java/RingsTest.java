@@ -7,6 +7,7 @@ public final class RingsTest {
         two();
         manyWays();
         apart();
+        longest();
         wrong();
         CHECK.end();
     }
@@ -70,6 +71,23 @@ public final class RingsTest {
         mean(x, 3, 1, -13, 2);
         due("onRing(0)", x.onRing(0), 12);
         due("onRing(1)", x.onRing(1), 3);
+    }
+
+    /** Rings of one to eight places, the means of each alone. */
+    private static void longest() {
+        for (int n = 1; n <= 8; n++) {
+            StringBuilder land = new StringBuilder("land weather 0;" + "place mine;".repeat(8));
+            for (int i = 0; i < n; i++) {
+                land.append("road ").append(8 - n + i).append(' ').append(8 - n + (i + 1) % n).append(" gains ")
+                    .append(i == 0 ? 1 : 0).append(';');
+            }
+            MeanRoads x = Check.of(land.toString());
+            mean(x, 7, 1, 1, n);
+            due("rings() of " + n, x.rings(), 9 - n);
+            due("onRing(1) of " + n, Check.of(land.toString()).onRing(1), 255 & ~((1 << 8 - n) - 1));
+            due("reach(7) of " + n, Check.of(land.toString()).reach(7), 255 & ~((1 << 8 - n) - 1));
+            due("worth(7, 1) of " + n, x.worth(7, 1), n);
+        }
     }
 
     private static void wrong() {

@@ -104,6 +104,11 @@ public final class RowsTest {
             due("weathers of " + v, x.weathers(0), -3);
             due("ask of " + v, x.ask(0), -3);
         }
+        MeanRoads z = Check.of("land weather 0;place mine;" + "road 0 0 gains 1;".repeat(16));
+        Check.fill(z, 0, 15101);
+        due("road 15", z.weathers(0), 1023);
+        Check.fill(z, 0, 16005);
+        due("road 16", z.weathers(0), -3);
         Check.fill(x, 0, 1);
         due("-99", x.weathers(0), 0);
         Check.fill(x, 0, 199);

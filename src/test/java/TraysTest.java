@@ -139,6 +139,10 @@ public final class TraysTest {
         for (int what = 0; what < want.length; what++) {
             due("count(" + what + ")", x.count(what), want[what]);
         }
+        x.numbers(0, 3, 1);
+        x.write(0, 0, 26);
+        due("one deed", x.perform(0), 1);
+        due("it can be undone", x.count(7), 3);
         due("count(10)", x.count(10), -1);
         due("count(-1)", x.count(-1), -1);
     }
