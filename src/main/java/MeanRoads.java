@@ -1514,8 +1514,9 @@ public final class MeanRoads {
             Arrays.fill(greatestHere, Integer.MIN_VALUE);
             Arrays.fill(reached, 0);
             int places = placeCount();
-            for (root = 0; root < places; root++) {
-                walk(root, 1 << root, 0, 1);
+            for (int p = 0; p < places; p++) {
+                root = p;
+                walk(p, 1 << p, 0, 1);
             }
             reachAll(places);
             for (int p = 0; p < places; p++) {

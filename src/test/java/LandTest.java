@@ -117,6 +117,9 @@ public final class LandTest {
         fault("land weather 0 ", 2, 15);
         fault("land weather 0;;", 2, 15);
         fault(land + "\t", 1, 15);
+        fault(land + "zz;", 2, 15);
+        fault(land + "{", 1, 15);
+        fault(land + "`", 1, 15);
         fault(land + (char) 233, 1, 15);
         fault(land + (char) 0, 1, 15);
         fault(land + "place hers;", 2, 21);

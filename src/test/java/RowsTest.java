@@ -81,6 +81,11 @@ public final class RowsTest {
         Check.fill(x, 0, 1102, 1102, 1102, 1102, 1102, 1102, 1102, 1102);
         due("all", x.weathers(0), 1023);
         due("ask: road 2 by 3", x.ask(0), 2);
+        MeanRoads y = Check.of("land weather 0;place mine;road 0 0 gains 1;road 0 0 gains 2;"
+            + "pays : if road = 0 then 5 else weather end;");
+        Check.fill(y, 0, 1100);
+        due("weather 0 alone", y.weathers(0), 1);
+        due("ask: all tell it, the first", y.ask(0), 0);
         Check.fill(x, 0, 1103);
         due("none", x.weathers(0), 0);
         due("ask of none", x.ask(0), -1);
