@@ -45,12 +45,18 @@ public final class MeanRoads {
     private final Survey survey = new Survey();
     private final Game game = new Game();
     private final Going going = new Going();
+    private final Sums table = new Sums();
     private final int[] securedMine = new int[MOST_PLACES];
-    private Sums table = null;
+    private int imagesMade = 0;
 
+    /** All rows are made here: what a call makes would count for each of an object's calls. */
     public MeanRoads() {
         for (int i = 0; i < trays.length; i++) {
             trays[i] = new Tray();
+        }
+        for (int i = 0; i < keptGrounds.length && i < keptStands.length; i++) {
+            keptGrounds[i] = new Land();
+            keptStands[i] = new Stand();
         }
     }
 
@@ -479,17 +485,10 @@ public final class MeanRoads {
     }
 
     private void countRows(int n) {
-        beginTable();
+        table.begin(now.token);
         for (int i = 0; i < n; i++) {
             table.stepByChoice(ground, now.sky);
         }
-    }
-
-    private void beginTable() {
-        if (table == null) {
-            table = new Sums();
-        }
-        table.begin(now.token);
     }
 
     // ---- paid
@@ -559,7 +558,7 @@ public final class MeanRoads {
     }
 
     private long drawLots(int n) {
-        beginTable();
+        table.begin(now.token);
         long all = 1;
         for (int i = 0; i < n; i++) {
             table.stepByLots(ground, now.sky);
@@ -615,12 +614,9 @@ public final class MeanRoads {
         if (!isImage(i)) {
             return NO_SUCH;
         }
-        if (keptGrounds[i] == null || keptStands[i] == null) {
-            keptGrounds[i] = new Land();
-            keptStands[i] = new Stand();
-        }
         keptGrounds[i].copy(ground);
         keptStands[i].copy(now);
+        imagesMade |= 1 << i;
         return 0;
     }
 
@@ -628,7 +624,7 @@ public final class MeanRoads {
         if (!isImage(i)) {
             return NO_SUCH;
         }
-        if (keptGrounds[i] == null || keptStands[i] == null) {
+        if ((imagesMade >> i & 1) == 0) {
             return NOT_NOW;
         }
         ground.copy(keptGrounds[i]);
@@ -761,14 +757,20 @@ public final class MeanRoads {
             return hasRoad(way) && isWeather(sky) ? pays[sky * MOST_ROADS + way] : 0;
         }
 
-        /** The most that an open road pays or costs. */
+        /** The least that a move can pay, 0 at most. */
+        int leastPaid(int sky) {
+            int least = 0;
+            for (int r = 0; r < MOST_ROADS; r++) {
+                least = isOpen(sky, r) ? Math.min(least, payOf(sky, r)) : least;
+            }
+            return least;
+        }
+
+        /** The most that a move can pay, 0 at least. */
         int mostPaid(int sky) {
-            int bits = openRoads(sky);
             int most = 0;
             for (int r = 0; r < MOST_ROADS; r++) {
-                if ((bits >> r & 1) == 1) {
-                    most = Math.max(most, Math.abs(payOf(sky, r)));
-                }
+                most = isOpen(sky, r) ? Math.max(most, payOf(sky, r)) : most;
             }
             return most;
         }
@@ -930,14 +932,17 @@ public final class MeanRoads {
         private int next = 0;
         int size = 0;
 
+        Past() {
+            for (int i = 0; i < kept.length; i++) {
+                kept[i] = new Stand();
+            }
+        }
+
         void forget() {
             size = 0;
         }
 
         void keep(Stand stand) {
-            if (kept[next] == null) {
-                kept[next] = new Stand();
-            }
             kept[next].copy(stand);
             next = (next + 1) % UNDO_LIMIT;
             size = Math.min(size + 1, UNDO_LIMIT);
@@ -945,7 +950,7 @@ public final class MeanRoads {
 
         void takeBack(Stand stand) {
             int latest = (next + UNDO_LIMIT - 1) % UNDO_LIMIT;
-            if (size > 0 && kept[latest] != null) {
+            if (size > 0) {
                 stand.copy(kept[latest]);
                 next = latest;
                 size--;
@@ -1613,13 +1618,11 @@ public final class MeanRoads {
         private static final int ENDLESS = 8 * MOST_PAY;
 
         private int solvedSky = NONE;
-        private int[] mineSecured = null;
-        private int[] yoursSecured = null;
-        private int minePlans = 0;
-        private int yoursPlans = 0;
         private final int[] full = new int[MOST_PLACES];
         private final int[] value = new int[MOST_PLACES];
         private final int[] chosen = new int[MOST_PLACES];
+        private final int[] goodMine = new int[MOST_PLACES];
+        private final int[] goodYours = new int[MOST_PLACES];
         private final int[] need = new int[MOST_PLACES];
 
         void forget() {
@@ -1638,42 +1641,74 @@ public final class MeanRoads {
             if (solvedSky == sky) {
                 return;
             }
-            if (mineSecured == null || yoursSecured == null) {
-                mineSecured = new int[MOST_PLANS * MOST_PLACES];
-                yoursSecured = new int[MOST_PLANS * MOST_PLACES];
-            }
             for (int p = 0; p < full.length; p++) {
                 full[p] = land.waysFrom(sky, p);
             }
-            minePlans = tabulate(land, sky, survey, 1, mineSecured);
-            yoursPlans = tabulate(land, sky, survey, 0, yoursSecured);
-            for (int p = 0; p < value.length; p++) {
-                value[p] = greatestOf(mineSecured, minePlans, p);
-            }
-            decode(land, 1, firstBest(land, mineSecured, minePlans));
-            decode(land, 0, firstBest(land, yoursSecured, yoursPlans));
+            survey.allWays(land, sky);
+            weighPlans(land, survey, 0, goodYours);
+            survey.allWays(land, sky);
+            weighPlans(land, survey, 1, goodMine);
             solvedSky = sky;
         }
 
-        /** Writes what each whole plan of a player secures from each place: how many plans. */
-        private int tabulate(Land land, int sky, Survey survey, int who, int[] secured) {
-            survey.allWays(land, sky);
-            for (int p = 0; p < land.places && p < full.length; p++) {
-                if (land.owner(p) == who) {
-                    survey.ways[p] = Integer.lowestOneBit(full[p]);
-                }
-            }
-            int plans = 0;
+        /** Goes through a player's whole plans: what the best of them secure, how many do from each place, the first best. */
+        private void weighPlans(Land land, Survey survey, int who, int[] good) {
+            firstPlan(land, who, survey.ways);
+            Arrays.fill(good, 0);
             boolean more = true;
-            while (more && plans < MOST_PLANS) {
+            boolean found = false;
+            for (int k = 0; k < MOST_PLANS && more; k++) {
                 survey.look();
-                for (int p = 0; p < MOST_PLACES; p++) {
-                    secured[plans * MOST_PLACES + p] = survey.securedBy(who, p);
+                boolean raised = raiseValues(land, survey, who, good);
+                boolean isBest = isBestSoFar(land, survey, who);
+                if (isBest && (raised || !found)) {
+                    keepPlan(land, who, survey.ways);
                 }
-                plans++;
+                found = isBest || found && !raised;
                 more = nextPlan(land, who, survey.ways);
             }
-            return plans;
+        }
+
+        /** Whether the plan looked at secures from some place more for its player than those before. */
+        private boolean raiseValues(Land land, Survey survey, int who, int[] good) {
+            boolean raised = false;
+            for (int p = 0; p < land.places && p < value.length && p < good.length; p++) {
+                int secured = survey.securedBy(who, p);
+                if (good[p] == 0 || (who == 1 ? secured > value[p] : secured < value[p])) {
+                    value[p] = secured;
+                    good[p] = 0;
+                    raised = true;
+                }
+                if (secured == value[p]) {
+                    good[p]++;
+                }
+            }
+            return raised;
+        }
+
+        private boolean isBestSoFar(Land land, Survey survey, int who) {
+            for (int p = 0; p < land.places && p < value.length; p++) {
+                if (survey.securedBy(who, p) != value[p]) {
+                    return false;
+                }
+            }
+            return true;
+        }
+
+        private void keepPlan(Land land, int who, int[] ways) {
+            for (int p = 0; p < land.places && p < chosen.length && p < ways.length; p++) {
+                if (land.owner(p) == who) {
+                    chosen[p] = Integer.numberOfTrailingZeros(ways[p]);
+                }
+            }
+        }
+
+        private void firstPlan(Land land, int who, int[] ways) {
+            for (int p = 0; p < land.places && p < full.length && p < ways.length; p++) {
+                if (land.owner(p) == who) {
+                    ways[p] = Integer.lowestOneBit(full[p]);
+                }
+            }
         }
 
         /** The last place changes first, so that the plans come way by way from place 0 on. */
@@ -1691,60 +1726,11 @@ public final class MeanRoads {
             return false;
         }
 
-        private static int greatestOf(int[] secured, int plans, int p) {
-            int most = Integer.MIN_VALUE;
-            for (int k = 0; k < plans; k++) {
-                most = Math.max(most, secured[k * MOST_PLACES + p]);
-            }
-            return most;
-        }
-
-        private int firstBest(Land land, int[] secured, int plans) {
-            for (int k = 0; k < plans; k++) {
-                boolean all = true;
-                for (int p = 0; p < land.places && p < value.length; p++) {
-                    all = all && secured[k * MOST_PLACES + p] == value[p];
-                }
-                if (all) {
-                    return k;
-                }
-            }
-            return 0;
-        }
-
-        /** Finds the ways of plan k again, counting as nextPlan goes. */
-        private void decode(Land land, int who, int k) {
-            int rest = k;
-            for (int p = Math.min(land.places, full.length) - 1; p >= 0; p--) {
-                int ways = Integer.bitCount(full[p]);
-                if (land.owner(p) == who && ways > 0) {
-                    chosen[p] = wayNumber(full[p], rest % ways);
-                    rest /= ways;
-                }
-            }
-        }
-
-        private static int wayNumber(int ways, int i) {
-            int left = ways;
-            for (int k = 0; k < i && k < MOST_ROADS; k++) {
-                left &= left - 1;
-            }
-            return Integer.numberOfTrailingZeros(left);
-        }
-
         int goodPlans(int who, int p) {
-            int[] secured = who == 1 ? mineSecured : yoursSecured;
-            int plans = who == 1 ? minePlans : yoursPlans;
-            if (secured == null || p < 0 || p >= value.length) {
+            if (p < 0 || p >= MOST_PLACES) {
                 return 0;
             }
-            int good = 0;
-            for (int k = 0; k < plans; k++) {
-                if (secured[k * MOST_PLACES + p] == value[p]) {
-                    good++;
-                }
-            }
-            return good;
+            return who == 1 ? goodMine[p] : goodYours[p];
         }
 
         int needAt(int p) {
@@ -1857,102 +1843,99 @@ public final class MeanRoads {
         }
     }
 
-    /** How many rows of moves lie on each place with each sum. */
+    /** How many rows of moves lie on each place with each sum, the sums from the least that can be on. */
     private static final class Sums {
-        private static final int MIDDLE = MOST_IN_ROW * MOST_PAY;
-        private static final int WIDTH = 2 * MIDDLE + 1;
+        private static final int MOST_SUMS = 2 * MOST_IN_ROW * MOST_PAY + 1;
 
-        private int[] counts = new int[MOST_PLACES * WIDTH];
-        private int[] next = new int[MOST_PLACES * WIDTH];
-        /** No sum lies further from 0; what lies beyond in the rows is old and never read. */
-        private int widest = 0;
-        private int nextWidest = 0;
+        private final int[] counts = new int[MOST_SUMS * MOST_PLACES];
+        private final int[] lying = new int[MOST_PLACES];
+        private final int[] arriving = new int[MOST_PLACES];
+        private int least = 0;
+        private int size = 1;
 
         void begin(int token) {
-            widest = 0;
+            least = 0;
+            size = 1;
             for (int p = 0; p < MOST_PLACES; p++) {
-                counts[p * WIDTH + MIDDLE] = p == token ? 1 : 0;
+                counts[p] = p == token ? 1 : 0;
             }
         }
 
-        private int rowsAt(int p, int sum) {
-            boolean isIn = p >= 0 && p < MOST_PLACES && sum >= -widest && sum <= widest;
-            return isIn ? counts[p * WIDTH + MIDDLE + sum] : 0;
-        }
-
-        private void beginStep(Land land, int sky) {
-            nextWidest = Math.min(MIDDLE, widest + land.mostPaid(sky));
-            for (int p = 0; p < MOST_PLACES; p++) {
-                int middle = p * WIDTH + MIDDLE;
-                for (int i = middle - nextWidest; i <= middle + nextWidest; i++) {
-                    next[i] = 0;
-                }
-            }
+        /** Rows with the k-th sum; what the table holds behind the last sum is old. */
+        private int rowsAt(int k, int p) {
+            boolean isIn = k >= 0 && k < size && p >= 0 && p < MOST_PLACES;
+            return isIn ? counts[k * MOST_PLACES + p] : 0;
         }
 
         void stepByChoice(Land land, int sky) {
-            beginStep(land, sky);
-            for (int p = 0; p < land.places; p++) {
-                int ways = land.waysFrom(sky, p);
-                for (int way = 0; way <= STAYING; way++) {
-                    if ((ways >> way & 1) == 1) {
-                        addAll(p, land.target(p, way), land.payOf(sky, way), 1);
-                    }
-                }
+            for (int p = 0; p < MOST_PLACES; p++) {
+                lying[p] = land.openFrom(sky, p) == 0 ? 1 : 0;
             }
-            endStep();
+            step(land, sky, land.openRoads(sky));
         }
 
         void stepByLots(Land land, int sky) {
-            beginStep(land, sky);
-            for (int p = 0; p < land.places; p++) {
-                int roads = land.openFrom(sky, p);
-                int lots = LOTS;
-                for (int r = 0; r < MOST_ROADS && lots > 0; r++) {
+            int roads = 0;
+            for (int p = 0; p < MOST_PLACES; p++) {
+                int drawn = firstBits(land.openFrom(sky, p), LOTS);
+                lying[p] = LOTS - Integer.bitCount(drawn);
+                roads |= drawn;
+            }
+            step(land, sky, roads);
+        }
+
+        private static int firstBits(int bits, int most) {
+            int rest = bits;
+            for (int i = 0; i < most; i++) {
+                rest &= rest - 1;
+            }
+            return bits & ~rest;
+        }
+
+        /** From the greatest sum down: each comes from places in the table that are not yet overwritten. */
+        private void step(Land land, int sky, int roads) {
+            int low = land.leastPaid(sky);
+            int sums = Math.min(MOST_SUMS, size + land.mostPaid(sky) - low);
+            for (int k = sums - 1; k >= 0; k--) {
+                for (int p = 0; p < MOST_PLACES; p++) {
+                    arriving[p] = lying[p] * rowsAt(k + low, p);
+                }
+                for (int r = 0; r < MOST_ROADS; r++) {
                     if ((roads >> r & 1) == 1) {
-                        addAll(p, land.target(p, r), land.payOf(sky, r), 1);
-                        lots--;
+                        arrive(land, r, k + low - land.payOf(sky, r));
                     }
                 }
-                addAll(p, p, 0, lots);
+                System.arraycopy(arriving, 0, counts, k * MOST_PLACES, MOST_PLACES);
             }
-            endStep();
+            least += low;
+            size = sums;
         }
 
-        private void addAll(int from, int to, int pay, int weight) {
-            if (to < 0 || to >= MOST_PLACES) {
-                return;
+        private void arrive(Land land, int r, int k) {
+            int to = land.target(NONE, r);
+            if (to >= 0 && to < arriving.length && land.hasRoad(r)) {
+                arriving[to] += rowsAt(k, land.from[r]);
             }
-            for (int sum = -widest; sum <= widest; sum++) {
-                int rows = rowsAt(from, sum);
-                int paid = sum + pay;
-                if (rows != 0 && paid >= -nextWidest && paid <= nextWidest) {
-                    next[to * WIDTH + MIDDLE + paid] += rows * weight;
-                }
-            }
-        }
-
-        private void endStep() {
-            int[] old = counts;
-            counts = next;
-            next = old;
-            widest = nextWidest;
         }
 
         int rowsPaying(int paid) {
+            return paid < least || paid >= least + size ? 0 : rowsWith(paid - least);
+        }
+
+        private int rowsWith(int k) {
             int rows = 0;
             for (int p = 0; p < MOST_PLACES; p++) {
-                rows += rowsAt(p, paid);
+                rows += rowsAt(k, p);
             }
             return rows;
         }
 
         int unlikeSums(int placeBits) {
             int unlike = 0;
-            for (int sum = -widest; sum <= widest; sum++) {
+            for (int k = 0; k < size; k++) {
                 boolean some = false;
                 for (int p = 0; p < MOST_PLACES; p++) {
-                    some = some || (placeBits >> p & 1) == 1 && rowsAt(p, sum) != 0;
+                    some = some || (placeBits >> p & 1) == 1 && rowsAt(k, p) != 0;
                 }
                 if (some) {
                     unlike++;
@@ -1964,9 +1947,9 @@ public final class MeanRoads {
         /** Rows behind which so much at first is not below 0. */
         long rowsKeeping(long money) {
             long rows = 0;
-            for (int sum = -widest; sum <= widest; sum++) {
-                if (money + sum >= 0) {
-                    rows += rowsPaying(sum);
+            for (int k = 0; k < size; k++) {
+                if (money + least + k >= 0) {
+                    rows += rowsWith(k);
                 }
             }
             return rows;
@@ -1974,8 +1957,8 @@ public final class MeanRoads {
 
         long allPaid() {
             long all = 0;
-            for (int sum = -widest; sum <= widest; sum++) {
-                all += (long) sum * rowsPaying(sum);
+            for (int k = 0; k < size; k++) {
+                all += (long) (least + k) * rowsWith(k);
             }
             return all;
         }
