@@ -13,6 +13,33 @@ final class Check {
         }
     }
 
+    void holds(String what, boolean does) {
+        if (!does) {
+            wrong++;
+            System.out.println(what + " does not hold");
+        }
+    }
+
+    /** A call by one of its numbers, the others being as they may be. */
+    interface By {
+        long answer(int v);
+    }
+
+    /** The numbers from low to high are taken, those on either side and the farthest are refused by a code. */
+    void bounds(String call, int low, int high, long code, By by) {
+        for (int v = low; v <= high; v = v < low + 50 || v >= high - 50 ? v + 1 : high - 50) {
+            long got = by.answer(v);
+            if (got == code) {
+                wrong++;
+                System.out.println(call + " by " + v + " was refused by " + got);
+            }
+        }
+        due(call + " by " + (low - 1), by.answer(low - 1), code);
+        due(call + " by " + (high + 1), by.answer(high + 1), code);
+        due(call + " by the least int", by.answer(Integer.MIN_VALUE), code);
+        due(call + " by the greatest int", by.answer(Integer.MAX_VALUE), code);
+    }
+
     /** Prints how it went; the test's exit code is 1 if something was wrong. */
     void end() {
         System.out.println(wrong == 0 ? "all answers are as due" : wrong + " answers are not as due");
@@ -35,13 +62,17 @@ final class Check {
         return text.getBytes(StandardCharsets.ISO_8859_1);
     }
 
-    static int tell(MeanRoads x, String text) {
-        byte[] b = bytes(text);
-        int[] v = ints(b);
+    /** A text comes onto the tape, with the blanks that fill up its last twenty bytes. */
+    static void feed(MeanRoads x, String text) {
+        int[] v = ints(bytes(text));
         for (int i = 0; i < v.length; i += 5) {
             x.feed(v[i], v[i + 1], v[i + 2], v[i + 3], v[i + 4]);
         }
-        return x.land(b.length);
+    }
+
+    static int tell(MeanRoads x, String text) {
+        feed(x, text);
+        return x.land(text.length());
     }
 
     /** A new object with a land. */
