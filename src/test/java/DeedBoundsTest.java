@@ -488,6 +488,11 @@ public final class DeedBoundsTest {
                 due(call + ": moves", a.count(4), b.count(4));
                 due(call + ": weather", a.count(2), b.count(2));
                 due(call + ": as a whole", a.count(7), could > 0 ? 1 : 0);
+                due(call + ": undone", a.undo(1), could > 0 ? 0 : -3);
+                due(call + ": undone, purse", a.purse(0), 0);
+                due(call + ": undone, token", a.count(3), 0);
+                due(call + ": undone, moves", a.count(4), 0);
+                due(call + ": undone, weather", a.count(2), 2);
             }
         }
     }

@@ -10,6 +10,7 @@ public final class GameBoundsTest {
         ringsMeetNoPlaceTwice();
         meansInLowestTerms();
         meansAtMost();
+        meansByEachWeather();
         ringsThatCanBeComeTo();
         reachesItself();
         allPlacesAsBits();
@@ -20,6 +21,7 @@ public final class GameBoundsTest {
         stayingIsBehindRoads();
         theFirstOfSeveralBest();
         bestSecuresFromEachPlace();
+        againstAllThatTheOtherMayChoose();
         plansOfPlayerWithoutPlaces();
         mostWholePlans();
         plansAsSet();
@@ -91,6 +93,14 @@ public final class GameBoundsTest {
         due("rings()", x.rings(), 2);
         fraction("the greatest", x.ring(2, 1, 0), x.ring(2, 1, 1), 9, 1);
         fraction("the least", x.ring(0, 0, 0), x.ring(0, 0, 1), 1, 2);
+        // on the way round a place that leads to itself
+        for (int n = 2; n <= 8; n++) {
+            for (int p = 0; p < n; p++) {
+                MeanRoads y = Check.of(ring(n, 1) + "road " + p + " " + p + " gains 9;");
+                due("a ring of " + n + " and one at " + p, y.rings(), 2);
+                due("the least mean of it", y.ring(p, 0, 1), n);
+            }
+        }
     }
 
     private static long divisor(long a, long b) {
@@ -122,6 +132,19 @@ public final class GameBoundsTest {
         }
     }
 
+    private static void meansByEachWeather() {
+        MeanRoads x = Check.of(ring(3, 0) + "pays : weather * 11 - 44;");
+        for (int w = 0; w <= 9; w++) {
+            x.weather(w);
+            long want = 11 * w - 44;
+            fraction("ring by weather " + w, x.ring(0, 0, 0), x.ring(0, 1, 1), want, 1);
+            fraction("worth by weather " + w, x.worth(1, 0), x.worth(1, 1), want, 1);
+            fraction("secures by weather " + w, x.secures(0, 2, 0), x.secures(1, 2, 1), want, 1);
+            due("wins by weather " + w, x.wins(Long.signum(want) + 1), 7);
+            due("energy by weather " + w, x.energy(0), want < 0 ? -1 : 0);
+        }
+    }
+
     private static void ringsThatCanBeComeTo() {
         MeanRoads x = Check.of("land weather 0;place mine;place yours;place mine;road 0 0 gains 5;road 0 1 gains 0;"
             + "road 1 1 gains 7;road 2 2 loses 1;road 2 0 gains 0;road 1 2 gains 0;open : road < 5;");
@@ -143,7 +166,9 @@ public final class GameBoundsTest {
 
     private static void allPlacesAsBits() {
         MeanRoads x = Check.of(ring(8, 1));
-        due("reach", x.reach(7), 255);
+        for (int p = 0; p < 8; p++) {
+            due("reach(" + p + ")", x.reach(p), 255);
+        }
         due("onRing(0)", x.onRing(0), 255);
         due("onRing(1)", x.onRing(1), 255);
         due("wins(2)", x.wins(2), 255);
@@ -239,6 +264,21 @@ public final class GameBoundsTest {
         due("best(1)", x.best(1), 2);
         due("from place 0 each way of 1 does", x.plans(1, 0), 2);
         due("from place 1 one does", x.plans(1, 1), 1);
+    }
+
+    /** The last way of each player is the one that the other must fear. */
+    private static void againstAllThatTheOtherMayChoose() {
+        MeanRoads x = Check.of("land weather 0;place mine;place yours;road 0 1 gains 0;road 0 0 gains 2;road 1 0 gains 8;"
+            + "road 1 1 gains 1;");
+        // by road 0 I am paid 4, or 1 if you stay; by road 1 I am paid 2, and you stay for 1
+        fraction("from mine", x.worth(0, 0), x.worth(0, 1), 2, 1);
+        fraction("from yours", x.worth(1, 0), x.worth(1, 1), 1, 1);
+        due("mine", x.best(0), 1);
+        due("yours", x.best(1), 3);
+        due("plans of mine from mine", x.plans(1, 0), 1);
+        due("plans of mine from yours", x.plans(1, 1), 2);
+        due("plans of yours from mine", x.plans(0, 0), 1);
+        due("plans of yours from yours", x.plans(0, 1), 1);
     }
 
     private static void plansOfPlayerWithoutPlaces() {
@@ -359,6 +399,8 @@ public final class GameBoundsTest {
     private static void energyOfYours() {
         String land = "land weather 0;place yours;place mine;place mine;road 0 1 loses 4;road 0 2 loses 9;";
         due("the dearer of two ways", Check.of(land).energy(0), 9);
+        due("nothing is needed", Check.of("land weather 0;place yours;").energy(0), 0);
+        due("nothing is needed, gaining", Check.of(ring(1, 1).replace("mine", "yours")).energy(0), 0);
         due("you can come to a ring that loses", Check.of(land + "road 1 1 loses 1;").energy(0), -1);
         due("I need not go there", Check.of((land + "road 1 1 loses 1;").replaceFirst("yours", "mine")).energy(0), 9);
     }

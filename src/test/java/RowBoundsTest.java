@@ -15,9 +15,11 @@ public final class RowBoundsTest {
         oneToEightNumbers();
         roadsOfPaid();
         payOfPaid();
+        eachRoadOfPaid();
         paidInEachSort();
         weathersAsBits();
         askedFor();
+        askedForOneWeather();
         askedForNone();
         lotsZeroToFive();
         justTenLots();
@@ -183,6 +185,27 @@ public final class RowBoundsTest {
         }
     }
 
+    /** Each road pays otherwise, the last one the least, so that its number is next to the thousand. */
+    private static void eachRoadOfPaid() {
+        for (int roads = 1; roads <= 16; roads++) {
+            MeanRoads x = Check.of(loops(new String[roads]).replace("null", "gains 0") + "pays : 0 - 99 + (" + (roads - 1)
+                + " - road) * 13;");
+            for (int r = 0; r < roads; r++) {
+                long pay = Math.min(99, -99 + (roads - 1 - r) * 13);
+                Check.fill(x, 0, 1000 * r + 100 + pay);
+                due("road " + r + " of " + roads, x.weathers(0), 1023);
+                Check.fill(x, 0, 1000 * r + 101 + pay);
+                due("one more than it pays", x.weathers(0), pay == 99 ? -3 : 0);
+                Check.fill(x, 0, 1000 * r + 99 + pay);
+                due("one less than it pays", x.weathers(0), pay == -99 ? -3 : 0);
+            }
+            Check.fill(x, 0, 1000 * roads + 1);
+            due("behind the last road, the least", x.weathers(0), -3);
+            Check.fill(x, 0, 1000 * roads + 199);
+            due("behind the last road, the most", x.weathers(0), -3);
+        }
+    }
+
     private static void paidInEachSort() {
         MeanRoads x = Check.of(loops("gains 5", "gains 27"));
         for (int sort = 0; sort < 4; sort++) {
@@ -223,6 +246,18 @@ public final class RowBoundsTest {
         Check.fill(y, 0, 1102, 2101);
         due("weather 4 alone", y.weathers(0), 16);
         due("one alone: the first", y.ask(0), 0);
+    }
+
+    /** By one weather alone no road tells more than another. */
+    private static void askedForOneWeather() {
+        MeanRoads x = Check.of(loops("gains 1", "gains 2") + "pays : if road = 0 then 5 else weather end;");
+        for (int w = 0; w <= 9; w++) {
+            Check.fill(x, 0, 1100 + w);
+            due("weather " + w + " alone", x.weathers(0), 1 << w);
+            due("ask by weather " + w + " alone", x.ask(0), 0);
+        }
+        Check.fill(x, 0, 105);
+        due("by all the one that tells them apart", x.ask(0), 1);
     }
 
     private static void askedForNone() {

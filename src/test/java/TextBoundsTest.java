@@ -5,6 +5,7 @@ public final class TextBoundsTest {
     private static final String SIGNS = ";:+-*()[]=<>";
 
     public static void main(String[] args) {
+        withoutAText();
         tapeTakes900();
         bytesComeHighestFirst();
         bytesComeBehindThoseThere();
@@ -30,6 +31,7 @@ public final class TextBoundsTest {
         laterLawsStrike();
         firstFaultAlongTheText();
         leastKindOfOneToken();
+        landBeginsAnew();
         faultOfLatestRead();
         eachTokenMayStandThereAlone();
         CHECK.end();
@@ -53,6 +55,21 @@ public final class TextBoundsTest {
         due("fault(1) of " + text, x.fault(1), MeanRoads.NONE);
         due("count(9) of " + text, x.count(9), lines);
         return x;
+    }
+
+    private static void withoutAText() {
+        MeanRoads x = new MeanRoads();
+        due("one PLACE", x.count(0), 1);
+        due("of mine", x.place(0, 0), 1);
+        due("no other", x.place(1, 0), -2);
+        due("no ROADS", x.count(1), 0);
+        due("no ROAD 0", x.road(0, 0), -2);
+        due("WEATHER 0", x.count(2), 0);
+        due("the TOKEN", x.count(3), 0);
+        due("the PURSE", x.purse(0), 0);
+        due("no PLAN", x.place(0, 1), MeanRoads.NONE);
+        due("no LINES", x.count(9), 0);
+        due("nothing to undo", x.undo(1), -3);
     }
 
     private static void tapeTakes900() {
@@ -381,6 +398,8 @@ public final class TextBoundsTest {
         String land = LAND + "place mine;road 0 0 gains 1;";
         due("pays twice", taken(land + "pays : 5;pays : 6;", 5).pay(0), 6);
         due("pays three times", taken(land + "pays : 5;pays : 1 + 2 + 3;pays : 7;", 6).pay(0), 7);
+        due("pays a hundred times", taken(land + "pays:5;".repeat(99) + "pays:8;", 103).pay(0), 8);
+        due("open sixty times", taken(land + "open:1=1;".repeat(59) + "open:1=2;", 63).road(0, 2), 0);
         due("open, then not", taken(land + "open : 1 = 1;open : 1 = 2;", 5).road(0, 2), 0);
         due("not, then open", taken(land + "open : 1 = 2;open : 1 = 1;", 5).road(0, 2), 1);
         MeanRoads x = taken(LAND + "pays : 9;open : road = 1;place mine;road 0 0 gains 1;road 0 0 gains 2;", 6);
@@ -421,6 +440,31 @@ public final class TextBoundsTest {
         fault(LAND + "pays : (((((([", 2, 28);
         fault(LAND + "open : [[[[[[1 = not", 2, 32);
         fault(LAND + "open : [[[[[[1 if", 2, 30);
+    }
+
+    private static void landBeginsAnew() {
+        MeanRoads x = taken(LAND + "place mine;place mine;road 0 1 gains 5;road 1 1 gains 2;", 5);
+        x.plan(0, 0);
+        x.plan(1, 1);
+        x.weather(8);
+        x.moves(3);
+        due("the TOKEN", x.count(3), 1);
+        due("the PURSE", x.purse(0), 9);
+        due("a new land", Check.tell(x, "land weather 4;place mine;place mine;road 1 0 gains 5;road 0 0 gains 6;"), 5);
+        due("the TOKEN lies on PLACE 0", x.count(3), 0);
+        due("the PURSE is 0", x.purse(0), 0);
+        due("MOVES", x.count(4), 0);
+        due("WEATHER", x.count(2), 4);
+        due("no PLANS, 0", x.place(0, 1), MeanRoads.NONE);
+        due("no PLANS, 1", x.place(1, 1), MeanRoads.NONE);
+        due("nothing can be UNDONE", x.count(7), 0);
+        due("undo(1)", x.undo(1), -3);
+        due("open from 0", x.place(0, 2), 1);
+        due("open from 1", x.place(1, 2), 1);
+        due("a land without roads", Check.tell(x, LAND + "place mine;place yours;"), 3);
+        due("none is open", x.count(6), 0);
+        due("none from 1", x.place(1, 2), 0);
+        due("none there", x.road(0, 0), -2);
     }
 
     private static void faultOfLatestRead() {
