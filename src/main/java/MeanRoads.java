@@ -736,7 +736,7 @@ public final class MeanRoads {
         }
 
         int openRoads(int sky) {
-            return isWeather(sky) ? open[sky] : 0;
+            return sky >= 0 && sky < open.length ? open[sky] : 0;
         }
 
         int openFrom(int sky, int p) {
@@ -943,14 +943,16 @@ public final class MeanRoads {
         }
 
         void keep(Stand stand) {
-            kept[next].copy(stand);
-            next = (next + 1) % UNDO_LIMIT;
-            size = Math.min(size + 1, UNDO_LIMIT);
+            if (next >= 0 && next < kept.length) {
+                kept[next].copy(stand);
+                next = (next + 1) % UNDO_LIMIT;
+                size = Math.min(size + 1, UNDO_LIMIT);
+            }
         }
 
         void takeBack(Stand stand) {
             int latest = (next + UNDO_LIMIT - 1) % UNDO_LIMIT;
-            if (size > 0) {
+            if (size > 0 && latest >= 0 && latest < kept.length) {
                 stand.copy(kept[latest]);
                 next = latest;
                 size--;
@@ -1130,7 +1132,7 @@ public final class MeanRoads {
         /** What the law tells where these are told, from, to, road, weather; a truth as 1 or 0. */
         int tell(int[] named) {
             top = 0;
-            for (int i = 0; i < size; i++) {
+            for (int i = 0; i < size && i < code.length; i++) {
                 int c = code[i];
                 if (c < NAMED) {
                     push(c);

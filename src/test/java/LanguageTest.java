@@ -6,7 +6,9 @@ import java.nio.file.Files;
 import java.nio.file.Path;
 import java.util.ArrayList;
 import java.util.List;
+import java.util.Map;
 import java.util.Set;
+import java.util.TreeMap;
 import java.util.TreeSet;
 import java.util.regex.Matcher;
 import java.util.regex.Pattern;
@@ -26,6 +28,7 @@ public final class LanguageTest {
         insides();
         words(code);
         lengths(code);
+        depths(code);
         CHECK.end();
     }
 
@@ -106,5 +109,91 @@ public final class LanguageTest {
         for (String line : lines) {
             none("long line:", line, line.length() <= 120);
         }
+    }
+
+    /** Rule 11: how deep calls go that are no recursion. Methods that call one another in a ring count as one. */
+    private static void depths(String code) {
+        Map<String, Set<String>> calls = callsByMethod(code);
+        Map<String, Set<String>> reached = new TreeMap<>();
+        for (String method : calls.keySet()) {
+            reached.put(method, new TreeSet<>());
+            List<String> todo = new ArrayList<>(calls.get(method));
+            while (!todo.isEmpty()) {
+                String next = todo.remove(todo.size() - 1);
+                if (reached.get(method).add(next)) {
+                    todo.addAll(calls.get(next));
+                }
+            }
+        }
+        Map<String, Integer> deep = new TreeMap<>();
+        for (String method : calls.keySet()) {
+            int depth = depth(method, calls, reached, deep);
+            none("calls " + depth + " deep:", method, depth <= 8);
+        }
+        none("all methods are seen:", calls.size(), calls.size() > 150);
+        none("the deepest is seen:", deep.get("MeanRoads.judge"), deep.get("MeanRoads.judge") > 4);
+    }
+
+    private static int depth(String method, Map<String, Set<String>> calls, Map<String, Set<String>> reached,
+                             Map<String, Integer> deep) {
+        if (deep.containsKey(method)) {
+            return deep.get(method);
+        }
+        Set<String> ring = new TreeSet<>(Set.of(method));
+        for (String other : reached.get(method)) {
+            if (reached.get(other).contains(method)) {
+                ring.add(other);
+            }
+        }
+        int below = 0;
+        for (String one : ring) {
+            for (String next : calls.get(one)) {
+                below = ring.contains(next) ? below : Math.max(below, depth(next, calls, reached, deep));
+            }
+        }
+        deep.put(method, below + 1);
+        return below + 1;
+    }
+
+    /** By names: a call without an object is the class's own or the outer one's, another any of that name. */
+    private static Map<String, Set<String>> callsByMethod(String code) {
+        Map<String, String> bodies = bodies(code);
+        Map<String, Set<String>> calls = new TreeMap<>();
+        for (Map.Entry<String, String> e : bodies.entrySet()) {
+            String own = e.getKey().substring(0, e.getKey().indexOf('.') + 1);
+            Set<String> all = new TreeSet<>();
+            Matcher m = Pattern.compile("(\\.)?\\b(\\w+)\\(").matcher(e.getValue());
+            while (m.find()) {
+                String name = m.group(2);
+                if (m.group(1) == null) {
+                    all.add((bodies.containsKey(own + name) ? own : "MeanRoads.") + name);
+                } else {
+                    bodies.keySet().stream().filter(k -> k.endsWith("." + name)).forEach(all::add);
+                }
+            }
+            all.retainAll(bodies.keySet());
+            calls.put(e.getKey(), all);
+        }
+        return calls;
+    }
+
+    private static Map<String, String> bodies(String code) {
+        Map<String, String> bodies = new TreeMap<>();
+        String[] lines = code.split("\n");
+        String inside = "MeanRoads";
+        for (int i = 0; i < lines.length; i++) {
+            Matcher c = Pattern.compile("^    private static final class (\\w+) \\{$").matcher(lines[i]);
+            inside = c.find() ? c.group(1) : lines[i].equals("    }") ? "MeanRoads" : inside;
+            Matcher m = Pattern.compile("^(    |        )\\w[^=;]*?(\\w+)\\([^=;]*\\) \\{$").matcher(lines[i]);
+            if (m.find() && m.group(1).length() == (inside.equals("MeanRoads") ? 4 : 8)) {
+                StringBuilder body = new StringBuilder();
+                String name = inside + "." + m.group(2);
+                while (++i < lines.length && !lines[i].equals(m.group(1) + "}")) {
+                    body.append(lines[i]).append('\n');
+                }
+                bodies.put(name, body.toString());
+            }
+        }
+        return bodies;
     }
 }
